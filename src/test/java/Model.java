@@ -314,6 +314,7 @@ final class Model {
     // ---- texts ----
 
     static final class Fault extends RuntimeException {
+        private static final long serialVersionUID = 1L;
         final int kind;
         final int place;
 
