@@ -1537,7 +1537,10 @@ public final class RoadToPort {
         }
     }
 
-    /** PLAN: by DAYS left, MILES gone and whether he must go on, in how many of 12 to the DAYS cases he is there. */
+    /**
+     * PLAN: by DAYS left and MILES gone, in how many of 12 to the DAYS cases he is there. A DAY more never makes it less
+     * likely, so a night never makes it likelier: nights count only where the first of like plans is chosen.
+     */
     private static final class Planner {
         static final int MOST_DAYS = 12;
         static final int MILESTONES = MOST_MILES + 1;
@@ -1558,35 +1561,33 @@ public final class RoadToPort {
 
         void think(Land land, Folk folk, int m) {
             // Few runs ask for a PLAN: its rows are made when the first one does.
-            if (cases == null) {
-                cases = new long[(MOST_DAYS + 1) * 2 * MILESTONES];
+            if (cases == null || survives == null) {
+                cases = new long[(MOST_DAYS + 1) * MILESTONES];
                 survives = new int[MILESTONES];
             }
             int days = folk.daysYet(m);
             int from = folk.of(m, Folk.GONE);
             int all = folk.allMiles(land, m);
             int pace = land.ofMan(m, Land.PACE);
-            int rested = folk.of(m, Folk.NIGHTS) > 0 ? 1 : 0;
             weighMilestones(land, folk, m);
             long whole = 1;
             for (int left = 0; left <= days; left++) {
-                weighDay(left, from, Math.min(all, from + (days - left) * pace), all, pace);
-                cases[index(left, 0, all)] = whole;
-                cases[index(left, 1, all)] = whole;
+                weighDay(left, from, Math.min(all - 1, from + (days - left) * pace), all, pace);
+                cases[index(left, all)] = whole;
                 if (left < days) {
                     whole *= 12;
                 }
             }
-            choose(days, from, all, pace, rested);
-            above = cases[index(days, rested, from)];
+            choose(days, from, all, pace, folk.of(m, Folk.NIGHTS) > 0);
+            above = cases[index(days, from)];
             below = whole;
             long common = commonDivisor(above, below);
             above /= common;
             below /= common;
         }
 
-        private static int index(int left, int rested, int milestone) {
-            return (left * 2 + rested) * MILESTONES + milestone;
+        private static int index(int left, int milestone) {
+            return left * MILESTONES + milestone;
         }
 
         /** Of 12 draws for who ends a DAY at a milestone, how many leave him alive. */
@@ -1608,36 +1609,33 @@ public final class RoadToPort {
         }
 
         private void weighDay(int left, int from, int to, int all, int pace) {
-            for (int at = from; at <= to && at < all; at++) {
+            for (int at = from; at <= to; at++) {
                 long best = 0;
                 for (int n = 1; n <= pace && at + n <= all && left > 0; n++) {
                     best = Math.max(best, worth(left, at, n));
                 }
-                cases[index(left, 1, at)] = best;
-                cases[index(left, 0, at)] = left > 0 ? Math.max(best, worth(left, at, 0)) : 0;
+                cases[index(left, at)] = best;
             }
         }
 
         private long worth(int left, int at, int n) {
-            return survives[at + n] * cases[index(left - 1, n == 0 ? 1 : 0, at + n)];
+            return survives[at + n] * cases[index(left - 1, at + n)];
         }
 
         /** Where no plan brings him there all are alike, and the first goes as little as it may. */
-        private void choose(int days, int from, int all, int pace, int rested) {
+        private void choose(int days, int from, int all, int pace, boolean rested) {
             Arrays.fill(chosen, NONE);
             int at = from;
-            int mustGo = rested;
-            boolean hopeless = cases[index(days, rested, from)] == 0;
+            int n = rested ? 0 : 1;
+            boolean hopeless = cases[index(days, from)] == 0;
             for (int k = 0; k < days && k < MOST_DAYS && at < all; k++) {
                 int left = days - k;
-                int n = mustGo;
-                while (!hopeless && n < pace && at + n < all
-                        && worth(left, at, n) != cases[index(left, mustGo, at)]) {
+                n = n == 0 ? 1 : 0;
+                while (!hopeless && n < pace && at + n < all && worth(left, at, n) != cases[index(left, at)]) {
                     n++;
                 }
                 chosen[k] = n;
                 at += n;
-                mustGo = n == 0 ? 1 : 0;
             }
         }
     }

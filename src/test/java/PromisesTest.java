@@ -719,6 +719,8 @@ public final class PromisesTest {
         c.is("19: none such", x.wayAt(-1), -1);
         c.is("18: no road", x.way(0, 5), -1);
         c.is("18: no such ones", x.way(0, 6), -1);
+        c.is("18: no such ones", x.way(6, 0), -1);
+        c.is("18: no such ones", x.way(-1, 0), -1);
         c.is("19: that was not NONE", x.wayAt(3), 4);
         c.is("18: back", x.way(4, 0), 3);
         c.is("19: another one", x.wayAt(1), 2);
@@ -847,6 +849,7 @@ public final class PromisesTest {
         c.is("26: alike", x.worst(0, 0), -1);
         c.is("26: no such ones", x.worst(0, 5), -1);
         c.is("26: no such ones", x.worst(-1, 0), -1);
+        c.is("26: no such ones", x.worst(5, 0), -1);
         c.is("26: DANGER 0", Checks.landOf("church a;inn b;road a b 1 0;").worst(1, 0), 0);
     }
 
@@ -910,9 +913,45 @@ public final class PromisesTest {
         c.is("28: too far in a DAY", turned(x, 0, 0, 5, 5), 0);
         c.is("28: too far back in a DAY", turned(x, 0, 6, 6, 1), 0);
         c.is("29: by the latest above 0", x.least(), 3);
+        c.is("28: staying, and at his PACE", turned(x, 0, 1, 1, 5, 9, 9, 5, 5, 1), 3);
+        c.is("29: least", x.least(), 9);
+        c.is("30: greatest", x.greatest(), 11);
+        longest();
         // On the first DAY 6 to 9, on the second 9 to 9, or on the third 9 to 5: 9 to 11.
         c.is("28: on any of the DAYS", turned(x, 0, 6, 9, 9, 5), 3);
         c.is("30: greatest", x.greatest(), 11);
+    }
+
+    /** Nine roads of 30 MILES. */
+    private static void longest() {
+        String text = "church a;inn b;inn c;inn d;inn e;inn f;inn g;inn h;inn i;port j 1 1 1;man t a 20 0;";
+        for (char p = 'a'; p < 'j'; p++) {
+            text += "road " + p + " " + (char) (p + 1) + " 30 0;";
+        }
+        RoadToPort x = Checks.landOf(text);
+        c.is("17: the longest WAY", x.far(0, 9), 270);
+        c.is("18: the longest WAY", x.way(9, 0), 10);
+        c.is("19: the longest WAY", x.wayAt(9), 0);
+        c.is("26: the longest WAY", x.worst(9, 0), 8);
+        x.swear(0, 9, 40);
+        c.is("28: the longest WAY", turned(x, 0, 250, 255), 8);
+        c.is("30: the longest WAY", x.greatest(), 262);
+        x.days(2, 1);
+        x.undo();
+        x.undo();
+        x.swear(0, 9, 12);
+        plan(x, 0, 0, 1, 0, 1, 0, 1, 0, 1, 0, 1, 0, 1, 0, 1);
+        x.days(12, 1);
+        c.is("15: not in time", x.man(0, 0), 4);
+        c.is("15: on the longest WAY", x.man(0, 13), 240);
+        x.undo();
+        x.undo();
+        x.swear(0, 9, 14);
+        x.days(13, 1);
+        c.is("15: on the longest WAY", x.man(0, 7), 260);
+        plan(x, 0, 1, 1, 10);
+        x.days(1, 1);
+        c.is("15: at its end", x.place(9, 4), 1);
     }
 
     private static void there() {
@@ -929,6 +968,12 @@ public final class PromisesTest {
         c.is("31: not in time", x.there(0), -1);
         x.order(0, 0);
         c.is("31: he would be an OUTLAW", x.there(0), -1);
+        RoadToPort z = Checks.landOf("church a;port p 1 1 1;road a p 9 0;man t a 6 1;");
+        z.swear(0, 1, 9);
+        z.days(1, 1);
+        c.is("31: the MILES that are left", z.there(0), 1);
+        z.order(0, 1);
+        c.is("31: a MILE a DAY", z.there(0), 3);
         RoadToPort y = Checks.landOf("church a;port p 1 1 1;road a p 4 12 ford;man t a 2 1;");
         y.swear(0, 1, 2);
         c.is("31: no fords, nobody slays", y.there(0), 1);
@@ -1076,6 +1121,7 @@ public final class PromisesTest {
         bookWrong("day 2;tom orders 1;", 1, 11, 1, 2, 0);
         bookWrong("tom swears dover 9;tom orders 5;", 1, 12, 1, 0, 0);
         bookWrong("tom swears dover 9;tom orders 4;", 1, 13, 1, 0, 0);
+        bookWrong("tom swears dover 40;tom orders 0;day 1;tom orders 0;", 3, 13, 3, 1, 0);
         bookWrong("tom slips;", 0, 21, 0, 0, 0);
         bookWrong("tom enters;", 0, 31, 0, 0, 0);
         bookWrong("tom swears dover 9;day 1;tom enters;", 2, 32, 2, 1, 0);
