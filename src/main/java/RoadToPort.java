@@ -289,7 +289,7 @@ public final class RoadToPort {
     }
 
     public int sentTo(int m) {
-        return country.hasMan(m) ? sender.portOf(m) : NONE;
+        return sender.portOf(m);
     }
 
     public int cut(int a, int b) {
@@ -1654,6 +1654,7 @@ public final class RoadToPort {
             Arrays.fill(ports, NONE);
         }
 
+        /** What was told last stays, whichever MEN the LAND has now. */
         int portOf(int m) {
             return m < 0 || m >= MOST_MEN ? NONE : ports[m];
         }

@@ -964,7 +964,7 @@ final class Model {
     }
 
     int sentTo(int m) {
-        return hasMan(m) ? latestSent.getOrDefault(m, NONE) : NONE;
+        return latestSent.getOrDefault(m, NONE);
     }
 
     private boolean joinedWithout(int a, int b, int cut) {

@@ -807,6 +807,19 @@ public final class PromisesTest {
         y.undo();
         c.is("22: it can't be", y.sent(), -1);
         c.is("23: by the latest that was not NONE", y.sentTo(1), 1);
+        y.image(0);
+        c.is("4: an empty LAND", y.land(), 0);
+        c.is("23: stays over a LAND without such a MAN", y.sentTo(1), 1);
+        c.is("23: nothing was told to him", y.sentTo(0), -1);
+        c.is("23: no such one", y.sentTo(6), -1);
+        y.restore(0);
+        c.is("23: stays over a LAND brought back", y.sentTo(1), 1);
+        Checks.land(y, "church a;port p 1 1 1;man s a 5 0;man t a 5 0;");
+        c.is("22: it can't be", y.sent(), -1);
+        c.is("23: stays as no other was told", y.sentTo(1), 1);
+        y.land();
+        c.is("22: nobody", y.sent(), 0);
+        c.is("23: the latest told him nothing", y.sentTo(1), -1);
         c.is("22: no road", Checks.landOf("church a;port p 1 1 1;man s a 5 0;").sent(), -1);
         c.is("22: no MEN", Checks.landOf("church a;").sent(), 0);
     }

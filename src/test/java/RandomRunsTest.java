@@ -120,6 +120,7 @@ public final class RandomRunsTest {
         log.append("  ").append(text.replace("\n", "\\n")).append('\n');
         tell(text);
         due("land()", () -> x.land(), () -> y.land());
+        toldLast();
     }
 
     /** Mostly a MAN who WALKS, if there is one. */
@@ -141,6 +142,9 @@ public final class RandomRunsTest {
             int kind = random.nextInt(100);
             if (random.nextInt(250) == 0) {
                 landNow();
+            } else if (random.nextInt(250) == 0) {
+                due("land()", x::land, y::land);
+                toldLast();
             } else if (kind < 24) {
                 act(style);
             } else if (kind < 30) {
@@ -260,10 +264,7 @@ public final class RandomRunsTest {
             case 1, 2 -> plan(walker());
             case 3 -> {
                 due("sent()", x::sent, y::sent);
-                for (int k = -1; k < 7; k++) {
-                    int who = k;
-                    due("sentTo(" + who + ")", () -> x.sentTo(who), () -> y.sentTo(who));
-                }
+                sentTo();
             }
             case 4 -> {
                 due("cut(" + p + ", " + q + ")", () -> x.cut(p, q), () -> y.cut(p, q));
@@ -283,6 +284,26 @@ public final class RandomRunsTest {
                 due("odds(" + m + ", " + n + ", " + seed + ")", () -> x.odds(m, n, seed), () -> y.odds(m, n, seed));
             }
         }
+    }
+
+    private void sentTo() {
+        for (int k = -1; k < 7; k++) {
+            int who = k;
+            due("sentTo(" + who + ")", () -> x.sentTo(who), () -> y.sentTo(who));
+        }
+    }
+
+    /** What other calls told last stays over another LAND. */
+    private void toldLast() {
+        sentTo();
+        int k = any(0, 4);
+        due("wayAt(" + k + ")", () -> x.wayAt(k), () -> y.wayAt(k));
+        due("planAt(" + k + ")", () -> x.planAt(k), () -> y.planAt(k));
+        due("byteAt(" + k + ")", () -> x.byteAt(k), () -> y.byteAt(k));
+        due("told(" + k + ")", () -> x.told(k), () -> y.told(k));
+        due("cutting()", x::cutting, y::cutting);
+        due("least()", x::least, y::least);
+        due("greatest()", x::greatest, y::greatest);
     }
 
     private void plan(int m) {
@@ -319,7 +340,10 @@ public final class RandomRunsTest {
         int k = random.nextInt(10) == 0 ? any(-1, 2) : any(0, 1);
         switch (random.nextInt(6)) {
             case 0 -> due("image(" + k + ")", () -> bit(x.image(k)), () -> bit(y.image(k)));
-            case 1 -> due("restore(" + k + ")", () -> bit(x.restore(k)), () -> bit(y.restore(k)));
+            case 1 -> {
+                due("restore(" + k + ")", () -> bit(x.restore(k)), () -> bit(y.restore(k)));
+                toldLast();
+            }
             case 2 -> end(random.nextInt(8) == 0 ? -1 : any(0, 30));
             default -> {
                 for (int n = any(1, random.nextInt(6) == 0 ? 10 : 2); n > 0; n--) {
