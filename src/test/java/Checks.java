@@ -1,6 +1,12 @@
+import java.io.IOException;
+import java.nio.charset.StandardCharsets;
+import java.nio.file.Files;
+import java.nio.file.Path;
+
 /** What the tests share: texts onto the tape, answers held against what is due, seeds with known draws. */
 final class Checks {
     static final int THROWS = -7777;
+    private static final Path DOCUMENT = Path.of("../shared/DOC.md");
 
     interface Call {
         long answer();
@@ -8,12 +14,35 @@ final class Checks {
 
     private int wrong = 0;
     private int asked = 0;
+    private String sentence = "";
+    private String document = null;
+
+    /** The next answers are about this sentence, which must stand in the document as it is written here. */
+    void says(String words) {
+        sentence = "\"" + words + "\": ";
+        if (document == null) {
+            document = Files.exists(DOCUMENT) ? read(DOCUMENT) : "";
+        }
+        is("the document's words", document.isEmpty() || document.contains(plain(words)), true);
+    }
+
+    private static String read(Path path) {
+        try {
+            return plain(Files.readString(path, StandardCharsets.UTF_8));
+        } catch (IOException e) {
+            throw new AssertionError(e);
+        }
+    }
+
+    private static String plain(String text) {
+        return text.replace("`", "").replaceAll("\\s+", " ");
+    }
 
     void is(String what, long got, long want) {
         asked++;
         if (got != want) {
             wrong++;
-            System.out.println(what + " answered " + got + ", due is " + want);
+            System.out.println(sentence + what + " answered " + got + ", due is " + want);
         }
     }
 
@@ -36,6 +65,46 @@ final class Checks {
         if (wrong != 0) {
             System.exit(1);
         }
+    }
+
+    void landIs(String text, int lines) {
+        RoadToPort x = new RoadToPort();
+        is("land of \"" + text + "\"", land(x, text), lines);
+        is("fault of \"" + text + "\"", x.fault(), 0);
+    }
+
+    void landFault(String text, int kind, int place) {
+        RoadToPort x = new RoadToPort();
+        is("land of \"" + text + "\"", land(x, text), -1 - place);
+        is("fault of \"" + text + "\"", x.fault(), kind);
+    }
+
+    void bookIs(String land, String text, int line) {
+        RoadToPort x = landOf(land);
+        is("book of \"" + text + "\"", book(x, text, 0), line);
+        is("fault of \"" + text + "\"", x.fault(), 0);
+    }
+
+    void bookFault(String land, String text, int kind, int place) {
+        RoadToPort x = landOf(land);
+        is("book of \"" + text + "\"", book(x, text, 0), -2 - place);
+        is("fault of \"" + text + "\"", x.fault(), kind);
+    }
+
+    void sentenceIs(String land, String text, int ones) {
+        RoadToPort x = landOf(land);
+        is("sentence of \"" + text + "\"", sentence(x, text), ones);
+        is("fault of \"" + text + "\"", x.fault(), 0);
+    }
+
+    void sentenceFault(String land, String text, int kind, int place) {
+        RoadToPort x = landOf(land);
+        is("sentence of \"" + text + "\"", sentence(x, text), -1 - place);
+        is("fault of \"" + text + "\"", x.fault(), kind);
+    }
+
+    static String filled(String text, int length) {
+        return text + " ".repeat(length - text.length());
     }
 
     static void tell(RoadToPort x, String text) {
