@@ -821,9 +821,9 @@ public final class DayEdgesTest {
 
     private static void whatIsUndone() {
         c.says("is undone");
-        RoadToPort y = Stage.six();
         for (int act = 0; act < 7; act++) {
             RoadToPort x = Stage.six();
+            RoadToPort y = Stage.six();
             c.is("act " + act, done(x, act), true);
             // To enter takes two acts, an oath and the entering.
             c.is("act " + act + " is undone", x.undo(), act == 3 ? 2 : 1);

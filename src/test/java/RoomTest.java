@@ -20,7 +20,7 @@ public final class RoomTest {
         c.is("an object takes " + object + " bytes, at most 40000", object <= 40000, true);
         use(x);
         before = taken();
-        for (int k = 0; k < 10; k++) {
+        for (int k = 0; k < 6; k++) {
             use(x);
         }
         long calls = taken() - before;
