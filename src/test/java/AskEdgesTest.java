@@ -402,6 +402,8 @@ public final class AskEdgesTest {
         plan(planner("24", 0, 2, 12), 1, 1, 2, 2, 2, 2, 2, 2, 2, 2, 2, 2, 2, 2);
         plan(planner("23", 0, 2, 12), 1, 1, 1, 2, 2, 2, 2, 2, 2, 2, 2, 2, 2, 2);
         plan(planner("22", 0, 2, 12), 1, 1, 0, 2, 2, 2, 2, 2, 2, 2, 2, 2, 2, 2);
+        plan(planner("30", 0, 16, 2), 1, 1, 14, 16);
+        plan(planner("30", 0, 13, 4), 1, 1, 0, 4, 13, 13);
         // A night just now, and the DAYS that go on.
         RoadToPort x = planner("3", 0, 3, 4);
         x.order(0, 0);
@@ -457,6 +459,14 @@ public final class AskEdgesTest {
         x = Checks.landOf("church a;inn b;port p 1 1 1;road a b 2 12 ford;road b p 5 3 ford;man t a 4 1;");
         x.swear(0, 2, 2);
         plan(x, 3, 4, 3, 4);
+        // From an inn that he has left behind, of a church that is not the first PLACE.
+        x = Checks.landOf("inn x;port p 1 1 1;church a;inn b;road a b 4 0;road b p 9 6;man t a 3 1;");
+        x.swear(0, 1, 5);
+        x.days(1, Checks.seed(Checks.draw(12, 0, 0)));
+        x.order(0, 2);
+        x.days(1, Checks.seed(Checks.draw(12, 6, 11)));
+        c.is("beyond the inn", x.man(0, 7), 5);
+        plan(x, 1, 4, 2, 3, 3);
         // What he ordered does not bind a PLAN; what he has gone already does.
         x = planner("9", 6, 3, 4);
         x.order(0, 1);
@@ -542,6 +552,12 @@ public final class AskEdgesTest {
         for (int m = 0; m < 6; m++) {
             c.is("sentTo(" + m + ") of like ones", x.sentTo(m), due[m]);
         }
+        // The first to the first port, the second to the third one, the one between is far away.
+        x = Checks.landOf("church a;church b;port p 1 1 1;port q 1 1 1;port r 1 1 1;road a p 1 0;road a q 20 0;road a b 30 0;"
+                + "road b q 20 0;road b r 1 0;man t a 1 0;man u b 1 0;");
+        c.is("near each", x.sent(), 2);
+        c.is("the first", x.sentTo(0), 2);
+        c.is("the second", x.sentTo(1), 4);
         // The fewest MILES go ahead of the least port; the nearest for one may be too far for another.
         x = Checks.landOf("church a;church b;port p 1 1 1;port q 1 1 1;road a p 1 0;road a q 2 0;road b p 1 0;road b q 9 0;"
                 + "man t a 1 0;man u b 1 0;");
@@ -1118,6 +1134,20 @@ public final class AskEdgesTest {
         for (int what : new int[] {-1, 4, 5, MIN, MAX}) {
             c.is("told(" + what + ")", x.told(what), -1);
         }
+        c.says("3 who has SAILED then, as bits");
+        String all = "port p 12 0 6;church a;inn b;inn d;inn e;inn f;inn g;inn h;inn i;inn j;road a p 1 0;road p b 1 0;road p d 1 0;"
+                + "road p e 1 0;road p f 1 0;road p g 1 0;road p h 1 0;road p i 1 0;road p j 1 0;road a b 1 0;road a d 1 0;"
+                + "road a e 1 0;road a f 1 0;road a g 1 0;road a h 1 0;road a i 1 0;";
+        for (char k = 'a'; k < 'g'; k++) {
+            all += "man m" + k + " a 1 0;";
+        }
+        x = Checks.landOf(all);
+        Checks.book(x, "mf swears p 1;mb swears p 1;day 2;", 0);
+        c.is("the second and the sixth", x.told(3), 34);
+        Checks.book(x, "ma swears p 1;mb swears p 1;mc swears p 1;md swears p 1;me swears p 1;mf swears p 1;day 1;", 0);
+        c.is("nobody yet", x.told(3), 0);
+        Checks.book(x, "ma swears p 1;mb swears p 1;mc swears p 1;md swears p 1;me swears p 1;mf swears p 1;day 2;ma slips;", 0);
+        c.is("all", x.told(3), 63);
     }
 
     // ---- SENTENCE ----

@@ -8,6 +8,8 @@ public final class DayEdgesTest {
         howTheyAre();
         swearing();
         swornTwice();
+        whoseChurch();
+        secondOath();
         ordering();
         slipping();
         entering();
@@ -22,6 +24,7 @@ public final class DayEdgesTest {
         milesOfADay();
         fords();
         whereFordsAre();
+        nineRoads();
         held();
         nights();
         danger();
@@ -130,6 +133,52 @@ public final class DayEdgesTest {
         x.undo();
         x.undo();
         c.is("of two one is undone", x.swear(0, 2, 9), 0);
+    }
+
+    private static void whoseChurch() {
+        c.says("2 there is no road to it");
+        // It is his church that counts, wherever it stands among the PLACES.
+        String two = "church a;church b;port p 1 1 1;inn i;";
+        RoadToPort x = Checks.landOf(two + "road a p 1 0;man s a 1 0;man t b 1 0;");
+        c.is("from the first church", x.swear(0, 2, 9), 0);
+        c.is("from the second there is none", x.swear(1, 2, 9), 2);
+        x = Checks.landOf(two + "road b i 1 0;road i p 1 0;man s a 1 0;man t b 1 0;");
+        c.is("from the first there is none", x.swear(0, 2, 9), 2);
+        c.is("from the second church, by an inn", x.swear(1, 2, 9), 0);
+    }
+
+    private static void secondOath() {
+        c.says("he WALKS the WAY to it from his church, has gone 0 of its MILES");
+        RoadToPort x = Checks.landOf("inn x;church a;church b;port p 12 0 1;port q 12 0 1;inn d;road a b 3 0;road b d 2 0;"
+                + "road d q 4 6;road b p 9 0;man s a 3 0;man t a 3 0;");
+        x.swear(0, 3, 40);
+        x.order(0, 0);
+        x.swear(1, 3, 9);
+        x.days(1, 1);
+        x.order(1, 0);
+        x.order(0, 1);
+        x.days(1, Checks.seed(Checks.draw(12, 0, 11)));
+        c.is("a night at the second church", x.man(1, 11), 1);
+        c.is("he ENTERS", x.enter(1), 0);
+        man(x, 1, 0, 3, 0, 0, 1, 3, 2, 0, 0, 0, 0, 0, 0, 3);
+        man(x, 0, 1, 3, 0, 0, 1, 3, 1, 1, 12, 38, 1, 0, 0, 1);
+        c.is("MILES that he walked so far", Checks.sentence(x, "miles = 3") + x.said(0), 1 + 1);
+        c.is("a second oath", x.swear(1, 4, 2), 0);
+        man(x, 1, 1, 3, 0, 0, 2, 4, 2, 0, 6, 2, 3, 0, 0, 3);
+        c.is("THERE", x.there(1), 3);
+        c.is("PLAN", x.plan(1, 0), 1);
+        c.is("PLAN", x.plan(1, 1), 2);
+        c.is("PLAN, the first DAY", x.planAt(0), 3);
+        c.is("PLAN, the second DAY", x.planAt(1), 3);
+        c.is("PLAN, no third DAY", x.planAt(2), -1);
+        x.order(0, 0);
+        x.days(1, Checks.seed(Checks.draw(12, 0, 11), Checks.draw(12, 6, 11)));
+        man(x, 1, 1, 3, 0, 0, 2, 4, 2, 3, 6, 1, 3, 0, 0, 6);
+        c.is("THERE", x.there(1), 3);
+        c.is("he sails in any case", x.odds(1, 5, 1), 5);
+        x.order(0, 1);
+        x.days(1, 1);
+        man(x, 1, 2, 3, 0, 0, 2, 4, 2, 6, 6, 0, 3, 0, 0, 9);
     }
 
     private static void ordering() {
@@ -532,6 +581,46 @@ public final class DayEdgesTest {
         c.is("alive by the second draw", x.man(0, 0), 1);
     }
 
+    private static void nineRoads() {
+        c.says("some of it is on a road with a ford: a draw of 6");
+        // A road of a MILE behind the other, the last of nine with a ford and the greatest DANGER.
+        String text = "church a;inn b;inn c;inn d;inn e;inn f;inn g;inn h;inn i;port j 0 0 1;man t a 20 0;";
+        for (char k = 'a'; k < 'j'; k++) {
+            text += "road " + k + " " + (char) (k + 1) + " 1 " + (k - 'a') + (k == 'i' ? " ford;" : ";");
+        }
+        RoadToPort x = Checks.landOf(text);
+        c.is("the last is worst", x.worst(0, 9), 8);
+        c.is("back: the first is worst", x.worst(9, 0), 8);
+        c.is("one to be cut", x.cut(0, 9), 1);
+        c.is("the least", x.cutting(), 1);
+        c.is("of the last two", x.cut(9, 7), 1);
+        c.is("the least", x.cutting(), 1 << 7);
+        x.swear(0, 9, 9);
+        x.days(1, Stage.seedOf(6, 0));
+        c.is("held by the last road", x.man(0, 7), 0);
+        x.order(0, 8);
+        x.days(1, Stage.seedOf(6, 0));
+        c.is("up to the last road", x.place(8, 4), 1);
+        x.undo();
+        x.order(0, 20);
+        x.days(1, Stage.seedOf(6, 1));
+        c.is("at the port on one DAY", x.place(9, 4), 1);
+        c.is("MILES", x.man(0, 13), 9);
+        // Two roads on, he is not yet at a ford's road behind those.
+        x = Checks.landOf("church a;inn b;inn d;port p 0 0 1;road a b 4 0;road b d 5 0;road d p 3 0 ford;man t a 9 0;");
+        x.swear(0, 3, 9);
+        x.order(0, 5);
+        x.days(1, 1);
+        x.order(0, 4);
+        x.image(0);
+        x.days(1, Checks.seed(Checks.draw(6, 0, 0)));
+        c.is("up to its beginning", x.man(0, 7), 9);
+        x.restore(0);
+        x.order(0, 5);
+        x.days(1, Checks.seed(Checks.draw(6, 0, 0)));
+        c.is("a MILE more", x.man(0, 7), 5);
+    }
+
     private static void held() {
         c.says("0: he goes none on this DAY (no night is counted, none is forgotten)");
         int seed = Checks.seed(Checks.draw(6, 0, 0), Checks.draw(6, 0, 0), Checks.draw(6, 0, 0));
@@ -824,9 +913,12 @@ public final class DayEdgesTest {
         for (int act = 0; act < 7; act++) {
             RoadToPort x = Stage.six();
             RoadToPort y = Stage.six();
+            // What was done ahead of it stays done.
+            x.get(1, 9);
+            y.get(1, 9);
             c.is("act " + act, done(x, act), true);
             // To enter takes two acts, an oath and the entering.
-            c.is("act " + act + " is undone", x.undo(), act == 3 ? 2 : 1);
+            c.is("act " + act + " is undone", x.undo(), act == 3 ? 3 : 2);
             if (act == 3) {
                 c.is("he WALKS", x.man(0, 0), 1);
                 x.undo();

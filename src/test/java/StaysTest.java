@@ -17,6 +17,7 @@ public final class StaysTest {
         theTape();
         kept();
         keptAsItWas();
+        keptWhole();
         twoPlaces();
         keptOfNothing();
         nothingCanBeUndone();
@@ -460,6 +461,62 @@ public final class StaysTest {
         c.is("the SENTENCE from the other place", y.said(0), 5);
         y.restore(0);
         c.is("the other LAND", y.count(0), 3);
+    }
+
+    private static void keptWhole() {
+        c.says("LAND, all that is so and the SENTENCE are kept in place k (0, 1)");
+        // As much as there may be, to the last PLACE, road, MAN and ONE.
+        StringBuilder text = new StringBuilder("church a;inn b;inn d;inn e;inn f;inn g;inn h;church i;inn j;port z 12 9 6;");
+        String[] two = {"a b", "a d", "a e", "b d", "b e", "d e", "b f", "f g", "g h", "h i", "i j", "j z", "f j", "g j", "h j", "i z"};
+        for (int r = 0; r < 16; r++) {
+            text.append("road ").append(two[r]).append(' ').append(r + 1).append(' ').append(r % 12).append(r == 11 ? " ford;" : ";");
+        }
+        for (char k = 'a'; k < 'g'; k++) {
+            text.append("man m").append(k).append(k == 'f' ? " i " : " a ").append("7 ").append(k - 'a').append(';');
+        }
+        text.append("kin mf;");
+        String ones = "kin" + " or slain".repeat(18) + " and number = 5";
+        RoadToPort x = Checks.landOf(text.toString());
+        c.is("20 ONES", Checks.sentence(x, ones), 20);
+        x.swear(5, 9, 30);
+        x.order(5, 6);
+        x.image(0);
+        Checks.land(x, OTHER);
+        Checks.sentence(x, "safe or safe");
+        x.swear(0, 0, 9);
+        x.days(9, 9);
+        x.restore(0);
+        RoadToPort y = Checks.landOf(text.toString());
+        c.is("the SENTENCE", x.said(0), 5);
+        c.is("how many", x.said(-1), 1);
+        for (int what = 0; what < 4; what++) {
+            c.is("the last PLACE: " + what, x.place(9, what), y.place(9, what));
+            c.is("how many: " + what, x.count(what), y.count(what));
+        }
+        for (int what = 0; what < 3; what++) {
+            c.is("the last road: " + what, x.road(7, 9, what), y.road(7, 9, what));
+            c.is("the ford: " + what, x.road(8, 9, what), y.road(8, 9, what));
+        }
+        for (int p = 0; p < 9; p++) {
+            c.is("FAR from the last PLACE to " + p, x.far(9, p), y.far(9, p));
+            c.is("worst from the last PLACE to " + p, x.worst(9, p), y.worst(9, p));
+            c.is("worst to the last PLACE from " + p, x.worst(p, 9), y.worst(p, 9));
+            c.is("a WAY from the last PLACE to " + p, x.way(9, p), y.way(9, p));
+            for (int k = 0; k < 4; k++) {
+                c.is("its PLACE " + k, x.wayAt(k), y.wayAt(k));
+            }
+        }
+        c.is("the last MAN: COIN", x.man(5, 2), 5);
+        c.is("the last MAN: kin", x.man(5, 3), 1);
+        c.is("the last MAN: how", x.man(5, 0), 1);
+        c.is("the last MAN: church", x.man(5, 6), 7);
+        c.is("the last MAN: MILES of his WAY", x.man(5, 8), 16);
+        c.is("the last MAN: DAYS", x.man(5, 9), 30);
+        c.is("the last MAN: what he ordered", x.man(5, 10), 6);
+        c.is("the last MAN's NAME", x.oath(5), 10);
+        c.is("the last MAN's last letter", x.byteAt(1), 'f');
+        c.is("the last PLACE's NAME", x.byteAt(6), 'z');
+        c.is("those NAMES are known", Checks.book(x, "mf orders 5;ma swears z 40;", 0), -1);
     }
 
     private static void twoPlaces() {

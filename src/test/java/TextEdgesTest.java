@@ -612,6 +612,7 @@ public final class TextEdgesTest {
         // ONES of a SENTENCE before do not count.
         for (int k = 0; k < 12; k++) {
             c.is("twenty again", Checks.sentence(x, nineteen + " or safe"), 20);
+            c.is("all are SAFE", x.said(-1), 2);
             c.is("a single one", Checks.sentence(x, "number=1"), 1);
             c.is("who", x.said(0), 1);
             c.is("nobody else", x.said(1), -1);
