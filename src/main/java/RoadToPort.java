@@ -445,7 +445,7 @@ public final class RoadToPort {
         if (k < 0 || k >= IMAGES) {
             return false;
         }
-        if (keptCountries[k] == null) {
+        if (!isKept(k)) {
             keptCountries[k] = new Land();
             keptFolks[k] = new Folk();
             keptPhrases[k] = new Phrase();
@@ -457,7 +457,7 @@ public final class RoadToPort {
     }
 
     public boolean restore(int k) {
-        if (k < 0 || k >= IMAGES || keptCountries[k] == null) {
+        if (k < 0 || k >= IMAGES || !isKept(k)) {
             return false;
         }
         country.copy(keptCountries[k]);
@@ -465,6 +465,10 @@ public final class RoadToPort {
         phrase.copy(keptPhrases[k]);
         history.clear();
         return true;
+    }
+
+    private boolean isKept(int k) {
+        return keptCountries[k] != null && keptFolks[k] != null && keptPhrases[k] != null;
     }
 
     /** The divisor is never 0: of 0 and a number above 0 it is the number. */

@@ -14,6 +14,7 @@ public final class AskEdgesTest {
         places();
         roads();
         men();
+        aLife();
         theDay();
         counts();
         far();
@@ -203,6 +204,40 @@ public final class AskEdgesTest {
             c.is("man(" + m + ", 0)", x.man(m, 0), m);
         }
         c.is("the last what", x.man(1, 13), 5);
+    }
+
+    private static void man(RoadToPort x, int... due) {
+        for (int what = 0; what < due.length; what++) {
+            c.is("man(0, " + what + ")", x.man(0, what), due[what]);
+        }
+    }
+
+    private static void aLife() {
+        c.says("4 how often he swore, 5 his port (NONE: never sworn), 6 the church in which he was last, 7 MILES of his WAY that he has"
+                + " gone, 8 all of its MILES (7, 8: SAFE: 0), 9 DAYS that he has yet (0: he does not WALK), 10 what he ordered, 11"
+                + " nights that he stayed just now, 12 how often he WADED, 13 MILES that he walked so far.");
+        RoadToPort x = Checks.landOf("inn i;church a;church b;port p 12 9 1;port q 12 9 1;road a b 3 0;road b p 4 0;road p q 1 0;man t a 5 8;");
+        man(x, 0, 5, 8, 0, 0, -1, 1, 0, 0, 0, 5, 0, 0, 0);
+        x.swear(0, 4, 9);
+        man(x, 1, 5, 8, 0, 1, 4, 1, 0, 8, 9, 5, 0, 0, 0);
+        x.order(0, 3);
+        x.days(1, 1);
+        // He is at the second church, but was in none but the first.
+        man(x, 1, 5, 8, 0, 1, 4, 1, 3, 8, 8, 3, 0, 0, 3);
+        x.order(0, 0);
+        x.days(1, 1);
+        man(x, 1, 5, 8, 0, 1, 4, 1, 3, 8, 7, 0, 1, 0, 3);
+        x.enter(0);
+        man(x, 0, 5, 8, 0, 1, 4, 2, 0, 0, 0, 0, 0, 0, 3);
+        x.swear(0, 3, 1);
+        man(x, 1, 5, 8, 0, 2, 3, 2, 0, 4, 1, 5, 0, 0, 3);
+        x.days(1, 1);
+        man(x, 2, 5, 8, 0, 2, 3, 2, 4, 4, 0, 5, 0, 0, 7);
+        x.days(2, 1);
+        man(x, 2, 5, 8, 0, 2, 3, 2, 4, 4, 0, 5, 0, 2, 7);
+        x.get(0, 1);
+        x.days(1, 1);
+        man(x, 3, 5, 0, 0, 2, 3, 2, 4, 4, 0, 5, 0, 2, 7);
     }
 
     private static void theDay() {
@@ -452,6 +487,7 @@ public final class AskEdgesTest {
         x = Checks.landOf("church a;inn b;port p 1 1 1;road a b 2 6;road b p 3 6;man t a 3 1;");
         x.swear(0, 2, 4);
         plan(x, 1, 1, 0, 2, 0, 3);
+        c.says("PLAN of a MAN who WALKS (fords left out; 12 DAYS at most)");
         // The road on which he ends a DAY counts, not those that he passed; fords are left out.
         x = Checks.landOf("church a;inn b;port p 1 1 1;road a b 2 12 ford;road b p 3 3 ford;man t a 3 1;");
         x.swear(0, 2, 2);
@@ -591,6 +627,7 @@ public final class AskEdgesTest {
     private static void cut() {
         c.says("CUT: how many roads (0: there is none already); NONE: more than 4, alike, no such ones.");
         RoadToPort x = Stage.six();
+        c.says("Which, as bits, by the latest cut() that was not NONE; NONE ahead of any.");
         c.is("ahead of any: cutting()", x.cutting(), -1);
         for (int p = 0; p < 6; p++) {
             c.is("alike: cut(" + p + ", " + p + ")", x.cut(p, p), -1);
@@ -695,6 +732,17 @@ public final class AskEdgesTest {
     // ---- SHIP ----
 
     private static void ship() {
+        c.says("All fractions are told by two numbers: 0 above, 1 below, in least terms.");
+        RoadToPort half = Checks.landOf("port p 6 1 1;port q 0 1 1;port r 12 1 1;");
+        c.is("a half, above", half.ship(0, 1, 0), 1);
+        c.is("a half, below", half.ship(0, 1, 1), 2);
+        c.is("nothing, above", half.ship(1, 8, 0), 0);
+        c.is("nothing, below", half.ship(1, 8, 1), 1);
+        c.is("all, above", half.ship(2, 8, 0), 1);
+        c.is("all, below", half.ship(2, 8, 1), 1);
+        c.says("SHIP: how likely one goes from a port in n DAYS.");
+        c.is("in 0 DAYS none goes, above", half.ship(2, 0, 0), 0);
+        c.is("in 0 DAYS none goes, below", half.ship(2, 0, 1), 1);
         c.says("SHIP from a port in n (0 to 8) DAYS. NoSuchElementException: no such ones, another PLACE.");
         for (int odds = 0; odds <= 12; odds++) {
             RoadToPort x = Checks.landOf("church a;inn i;port p " + odds + " 1 1;");
@@ -773,6 +821,8 @@ public final class AskEdgesTest {
     private static void turnedWhere() {
         c.says("milestones (0 to the MILES of his WAY) at which he can have turned once");
         c.is("at the church", turned(tracked(), 0, 0, 0), 3);
+        c.says("up to a DAY he did not go back, from the next one on he did not go on, never more than PACE in a DAY; between these"
+                + " two DAYS he went to the milestone and back.");
         RoadToPort x = tracked();
         int[][] cases = {
             // bytes .., -1, how many, least, greatest
@@ -795,7 +845,10 @@ public final class AskEdgesTest {
             c.is("least by " + what, x.least(), one[n + 2]);
             c.is("greatest by " + what, x.greatest(), one[n + 3]);
         }
+        c.says("The greatest of these; NONE ahead of any.");
+        c.is("ahead of any: greatest()", tracked().greatest(), -1);
         c.says("The least of these by the latest turned() above 0; NONE ahead of any.");
+        c.is("ahead of any: least()", tracked().least(), -1);
         turned(x, 0, 1, 2, 3);
         int[][] none = {{0, 5}, {5, 0}, {0, 5, 5}, {5, 5, 0}, {2, 1, 2}, {3, 2, 2, 3}, {0, 1, 0, 1}, {0, 4, 9, 9}, {9, 4, 4}};
         for (int[] seen : none) {
@@ -842,6 +895,8 @@ public final class AskEdgesTest {
         c.is("by four: the DAY that goes now", x.there(1), 2);
         x.order(1, 0);
         c.is("by none", x.there(1), -1);
+        c.says("THERE: if there are no fords and nobody slays anyone, and he goes as he ordered: the DAY (the one that goes then) on"
+                + " which he comes to his port in time.");
         for (int days = 1; days <= 12; days++) {
             for (int pace = 0; pace <= 10; pace++) {
                 RoadToPort y = Checks.landOf("church a;inn b;port p 1 1 1;road a b 4 12 ford;road b p 5 12;man t a 10 1;");
@@ -1134,7 +1189,7 @@ public final class AskEdgesTest {
         for (int what : new int[] {-1, 4, 5, MIN, MAX}) {
             c.is("told(" + what + ")", x.told(what), -1);
         }
-        c.says("3 who has SAILED then, as bits");
+        c.says("1 how many LINES are ahead of the one that is WRONG (all, if none is), 2 the DAY then, 3 who has SAILED then, as bits");
         String all = "port p 12 0 6;church a;inn b;inn d;inn e;inn f;inn g;inn h;inn i;inn j;road a p 1 0;road p b 1 0;road p d 1 0;"
                 + "road p e 1 0;road p f 1 0;road p g 1 0;road p h 1 0;road p i 1 0;road p j 1 0;road a b 1 0;road a d 1 0;"
                 + "road a e 1 0;road a f 1 0;road a g 1 0;road a h 1 0;road a i 1 0;";

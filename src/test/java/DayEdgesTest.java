@@ -787,6 +787,10 @@ public final class DayEdgesTest {
     }
 
     private static void manByMan() {
+        c.says("It is the next DAY.");
+        RoadToPort none = Checks.landOf("");
+        c.is("a DAY without MEN", none.days(1, 1), 1);
+        c.is("the next DAY", none.now(0), 1);
         c.says("MAN by MAN, as he is then");
         // Each of three draws once on a DAY, in their order; who comes to the port on it draws for no ship.
         String text = "church a;port p 6 0 6;port q 0 0 1;road a p 2 0;road a q 9 6;man r a 2 0;man s a 1 0;man t a 2 0;man u a 1 0;";

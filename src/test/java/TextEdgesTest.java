@@ -254,6 +254,10 @@ public final class TextEdgesTest {
     }
 
     private static void rangesOfALand() {
+        c.says("2 a NUMBER that is not as told (at it)");
+        c.landFault("port p   13 0 1;", 2, 9);
+        c.landFault("port p\n013 0 1;", 2, 7);
+        c.landFault("port p 12 0 7 ;", 2, 12);
         c.says("'port' NAME ODDS PAY HOLDS (0 to 12; 0 to 99; 1 to 6)");
         landNumber("port p ", 0, 12, " 99 6;");
         landNumber("port p 12 ", 0, 99, " 6;");
@@ -786,6 +790,20 @@ public final class TextEdgesTest {
 
     /** Each WORD of the three kinds of texts, at the head of a LINE and of a ONE: those alone that the grammar has there. */
     private static void grammar() {
+        c.says("MAN ( 'swears' PORT N | 'orders' N | 'slips' | 'enters' | 'gets' N ) | 'day' N");
+        c.bookFault(LAND, "tom slips tom;", 1, 10);
+        c.bookFault(LAND, "tom enters a;", 1, 11);
+        c.bookFault(LAND, "tom swears p 1 1;", 1, 15);
+        c.bookFault(LAND, "tom gets 1 1;", 1, 11);
+        c.bookFault(LAND, "tom orders 1 1;", 1, 13);
+        c.bookFault(LAND, "day tom 1;", 1, 4);
+        c.says("SIGN: < = >.");
+        c.sentenceFault(LAND, "coin (5)", 1, 5);
+        c.sentenceFault(LAND, "coin <> 5", 1, 6);
+        c.sentenceFault(LAND, "coin ! 5", 1, 5);
+        said("number<1", 0);
+        said("number=1", 1);
+        said("number>0", 1);
         c.says("LINE: 'church' NAME | 'inn' NAME | 'port' NAME ODDS PAY HOLDS");
         String heads = " church inn port road man kin ";
         String acts = " swears orders slips enters gets ";
