@@ -715,36 +715,51 @@ public final class RoadToPort {
         }
 
         int ofPlace(int p, int what) {
-            return placeRows[p * OF_PLACE + what];
+            int i = p * OF_PLACE + what;
+            return i < 0 || i >= placeRows.length ? NONE : placeRows[i];
         }
 
         int ofRoad(int r, int what) {
-            return roadRows[r * OF_ROAD + what];
+            int i = r * OF_ROAD + what;
+            return i < 0 || i >= roadRows.length ? NONE : roadRows[i];
         }
 
         int ofMan(int m, int what) {
-            return manRows[m * OF_MAN + what];
+            int i = m * OF_MAN + what;
+            return i < 0 || i >= manRows.length ? NONE : manRows[i];
         }
 
         int roadBetween(int a, int b) {
-            return between[a * MOST_PLACES + b];
+            int i = a * MOST_PLACES + b;
+            return i < 0 || i >= between.length ? NONE : between[i];
         }
 
         boolean joined(int a, int b) {
-            return miles[a * MOST_PLACES + b] < NO_ROAD;
+            return milesBetween(a, b) < NO_ROAD;
         }
 
         int milesBetween(int a, int b) {
-            return miles[a * MOST_PLACES + b];
+            int i = a * MOST_PLACES + b;
+            return i < 0 || i >= miles.length ? NO_ROAD : miles[i];
         }
 
         int nextTo(int at, int goal) {
-            return nexts[at * MOST_PLACES + goal];
+            int i = at * MOST_PLACES + goal;
+            return i < 0 || i >= nexts.length ? NONE : nexts[i];
         }
 
         /** The road on which one leaves a PLACE for another one that is joined to it. */
         int roadToward(int at, int goal) {
-            return towards[at * MOST_PLACES + goal];
+            int i = at * MOST_PLACES + goal;
+            return i < 0 || i >= towards.length ? NONE : towards[i];
+        }
+
+        long nameOfPlace(int p) {
+            return p < 0 || p >= placeNames.length ? 0 : placeNames[p];
+        }
+
+        long nameOfMan(int m) {
+            return m < 0 || m >= manNames.length ? 0 : manNames[m];
         }
 
         int placeNamed(long name) {
@@ -1021,15 +1036,22 @@ public final class RoadToPort {
         }
 
         int of(int m, int what) {
-            return row[m * OF_MAN + what];
+            int i = m * OF_MAN + what;
+            return i < 0 || i >= row.length ? NONE : row[i];
         }
 
         private void put(int m, int what, int value) {
-            row[m * OF_MAN + what] = value;
+            int i = m * OF_MAN + what;
+            if (i >= 0 && i < row.length) {
+                row[i] = value;
+            }
         }
 
         private void more(int m, int what, int n) {
-            row[m * OF_MAN + what] += n;
+            int i = m * OF_MAN + what;
+            if (i >= 0 && i < row.length) {
+                row[i] += n;
+            }
         }
 
         int allMiles(Land land, int m) {
@@ -1569,9 +1591,9 @@ public final class RoadToPort {
                 cases = new long[(MOST_DAYS + 1) * MILESTONES];
                 survives = new int[MILESTONES];
             }
-            int days = folk.daysYet(m);
-            int from = folk.of(m, Folk.GONE);
-            int all = folk.allMiles(land, m);
+            int days = Math.min(MOST_DAYS, folk.daysYet(m));
+            int all = Math.min(MOST_MILES, folk.allMiles(land, m));
+            int from = Math.min(all, folk.of(m, Folk.GONE));
             int pace = land.ofMan(m, Land.PACE);
             weighMilestones(land, folk, m);
             long whole = 1;
@@ -1599,8 +1621,8 @@ public final class RoadToPort {
             int goal = folk.of(m, Folk.GOAL);
             int at = folk.of(m, Folk.HOME);
             int passed = 0;
-            for (int k = 0; k < MOST_PLACES && at != goal; k++) {
-                int length = land.ofRoad(land.roadToward(at, goal), Land.LENGTH);
+            for (int k = 0; k < MOST_PLACES && at != goal && land.roadToward(at, goal) != NONE; k++) {
+                int length = Math.min(MOST_MILES - passed, land.ofRoad(land.roadToward(at, goal), Land.LENGTH));
                 int alive = 12 - folk.dangerFor(land, m, at);
                 survives[passed] = 12;
                 for (int i = 1; i < length; i++) {
@@ -1789,7 +1811,7 @@ public final class RoadToPort {
 
         private void push(Land land, int a, int b) {
             int at = b;
-            for (int k = 0; k < MOST_PLACES && at != a && cameBy[at] != NONE; k++) {
+            for (int k = 0; k < MOST_PLACES && at != a && at != NONE && cameBy[at] != NONE; k++) {
                 int r = cameBy[at];
                 if (land.ofRoad(r, Land.OTHER_END) == at) {
                     flows[r]++;
@@ -1889,15 +1911,15 @@ public final class RoadToPort {
 
         int write(Land land, Folk folk, int m) {
             length = 0;
-            name(land.manNames[m]);
+            name(land.nameOfMan(m));
             switch (folk.of(m, Folk.HOW)) {
                 case SAFE:
                     words(" in ");
-                    name(land.placeNames[folk.of(m, Folk.HOME)]);
+                    name(land.nameOfPlace(folk.of(m, Folk.HOME)));
                     break;
                 case WALKS:
                     words(" to ");
-                    name(land.placeNames[folk.of(m, Folk.GOAL)]);
+                    name(land.nameOfPlace(folk.of(m, Folk.GOAL)));
                     words(" ");
                     digits(folk.daysYet(m));
                     break;
